@@ -371,6 +371,15 @@ final class Plain {
         return null;
     }
 
+    /** THE DIVISORS of q m that make p m. */
+    static long[] divisors(int above, int below, int m) {
+        List<Integer> chosen = null;
+        for (int many = 1; chosen == null; many++) {
+            chosen = choose(divisorsFalling(below * m), 0, many, above * m);
+        }
+        return chosen.stream().mapToLong(d -> d).toArray();
+    }
+
     long multiple(int r) {
         if (!in(r, 0, 7)) {
             return BAD;
@@ -397,11 +406,8 @@ final class Plain {
         if (m < 0) {
             return m;
         }
-        List<Integer> chosen = null;
-        for (int many = 1; chosen == null; many++) {
-            chosen = choose(divisorsFalling((int) (q[r] * m)), 0, many, (int) (p[r] * m));
-        }
-        return i == -1 ? chosen.size() : i < chosen.size() ? chosen.get(i) : NONE;
+        long[] chosen = divisors((int) p[r], (int) q[r], (int) m);
+        return i == -1 ? chosen.length : i < chosen.length ? chosen[i] : NONE;
     }
 
     static long handy(int n) {
@@ -461,9 +467,13 @@ final class Plain {
         if (!proper(r) || q[r] > 300) {
             return NO;
         }
+        return allThrees(p[r], q[r]);
+    }
+
+    static long allThrees(long above, long below) {
         long many = 0;
-        for (long a = q[r] / p[r] + 1; p[r] * a < 3 * q[r]; a++) {
-            many += allPairs(p[r] * a - q[r], q[r] * a, a).size();
+        for (long a = below / above + 1; above * a < 3 * below; a++) {
+            many += allPairs(above * a - below, below * a, a).size();
         }
         return many;
     }
