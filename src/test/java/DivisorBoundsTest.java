@@ -89,6 +89,9 @@ public final class DivisorBoundsTest {
 
     private static void fewestAndGreatest() {
         tells(5, 6, 1, 3, 2);
+        // 10 2 1 begins with a greater one than 8 5, but is more.
+        tells(13, 40, 1, 8, 5);
+        tells(17, 72, 1, 9, 8);
         // 12 and 5 are as few as 15 and 2.
         tells(17, 60, 1, 15, 2);
         // 30 and 1 is fewer than 20, 6 and 5.
@@ -135,6 +138,10 @@ public final class DivisorBoundsTest {
         checks.due("two registers in turn", x.divisor(1, 0), 7);
         checks.due("two registers in turn", x.divisor(0, 0), 3);
         checks.due("two registers in turn", x.divisor(1, 2), 1);
+        x.hold(1, 2, 7);
+        checks.due("another p, the same q", x.divisor(1, -1), 2);
+        x.hold(1, 2, 5);
+        checks.due("another q, the same p", x.divisor(1, 0), 5);
     }
 
     private static void handyIs1To20000() {

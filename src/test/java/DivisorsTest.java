@@ -99,11 +99,11 @@ public final class DivisorsTest {
         }
         int many = 0;
         for (int n = 1; n <= 1000; n++) {
-            many += x.handy(n);
+            many += new SingleShares().handy(n);
         }
         checks.due("handy ones up to 1000", many, 198);
         for (int n = 1; n <= 20000; n += n < 1500 || n > 19900 ? 1 : 7) {
-            checks.due("handy " + n, x.handy(n), Plain.handy(n));
+            checks.due("handy " + n, new SingleShares().handy(n), Plain.handy(n));
         }
     }
 }

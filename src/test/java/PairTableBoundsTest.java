@@ -166,6 +166,10 @@ public final class PairTableBoundsTest {
         checks.due("two in turn", x.pair(0, 0, 0), 2);
         checks.due("threes between", x.threes(1), Plain.allThrees(1, 6));
         checks.due("two in turn", x.pair(1, 3, 1), 15);
+        x.hold(1, 5, 6);
+        checks.due("another p, the same q", x.pair(1, 0, 1), 3);
+        x.hold(1, 5, 8);
+        checks.due("another q, the same p", x.pair(1, 0, 1), 8);
     }
 
     private static void tableQIs2To60() {

@@ -99,7 +99,7 @@ public final class PairsTablesTest {
         checks.due("q above 300", x.threes(0), SingleShares.NO);
         for (int q = 2; q <= 300; q += q < 40 ? 1 : 13) {
             for (int p = 1; p < q; p += p < 12 ? 1 : 19) {
-                x.hold(0, p, q);
+                x = holding(p, q);
                 Plain plain = new Plain();
                 plain.hold(0, p, q);
                 checks.due("threes of " + p + " by " + q, x.threes(0), plain.threes(0));
@@ -126,6 +126,7 @@ public final class PairsTablesTest {
         for (int q = 2; q <= 60; q++) {
             for (int k = 1; k <= 4; k++) {
                 for (int n : new int[] {2, 3, 7, 12, 19, 28, 33, 39, 40}) {
+                    x = new SingleShares();
                     for (int p = 0; p < q; p += k < 4 ? 1 : 5) {
                         checks.due("table " + q + " " + n + " " + k + " " + p, x.table(q, n, k, p), Plain.table(q, n, k, p));
                     }

@@ -153,6 +153,15 @@ public final class RoadBoundsTest {
             refuses(Use.CUT, p, 999983, Use.SPENT);
         }
         refuses(Use.CUT, 999999, 1000000, Use.SPENT);
+        // From q (q + 1) twice on, however great their numbers would be.
+        for (int q = 1000; q <= 1000000; q += q < 1100 ? 1 : 997) {
+            for (int p = 3; p <= 4; p++) {
+                SingleShares x = Use.holding(p, q);
+                if (x.told(0, 0) == p) {
+                    checks.due(name(Use.CUT, p, q), x.road(Use.CUT, 0), Use.SPENT);
+                }
+            }
+        }
         // 16 at most in lowest terms: 17 by 34 is one share.
         tells(Use.CUT, 17, 34, 2);
         tells(Use.CUT, 500000, 1000000, 2);

@@ -123,6 +123,7 @@ public final class RoadsTest {
         }
         for (int q = 2; q <= 1000; q += q < 60 ? 1 : 47) {
             for (int p = 1; p < q; p += q < 60 ? 1 : 13) {
+                x = new SingleShares();
                 for (int road = 0; road < 5; road++) {
                     for (int what = 0; what < 3; what++) {
                         checks.due("loaves of " + name(road, p, q) + " " + what, x.loaves(road, p, q, what), Plain.loaves(road, p, q, what));

@@ -393,6 +393,12 @@ public final class SumBoundsTest {
         y.sums(0, 30, 4);
         checks.row("3 5 15", Use.sum(y, 2), 3, 5, 15);
         checks.due("but by 30", y.cuts(0, 2), 3);
+        // 12 alone, and by one cut 15 60, 16 48, 18 36, 20 30, 21 28.
+        SingleShares w = Use.holding(1, 12);
+        checks.due("1 by 12 for 60", w.sums(0, 60, 2), 6);
+        checks.due("beside 12 for 60", w.beside(0), 5);
+        checks.due("1 by 12 for 59", w.sums(0, 59, 2), 5);
+        checks.due("beside 12 for 59", w.beside(0), 4);
         SingleShares z = Use.holding(7, 12);
         z.sums(0, 30, 3);
         checks.due("2 20 30 to 3 5 20 by three", z.cuts(1, 4), 4);

@@ -204,6 +204,12 @@ public final class SumsTest {
         }
     }
 
+    private static SingleShares asked(int p, int q, int n, int k) {
+        SingleShares x = holding(p, q);
+        x.sums(0, n, k);
+        return x;
+    }
+
     private static void againstPlain(int p, int q, int n, int k) {
         SingleShares x = holding(p, q);
         Plain plain = new Plain();
@@ -214,11 +220,15 @@ public final class SumsTest {
         checks.due(name + "count(2)", x.count(2), size);
         checks.due(name + "count(3)", x.count(3), plain.count(3));
         for (int i = 0; i < size; i++) {
+            if (i % 50 == 0) {
+                x = asked(p, q, n, k); // more than 512 calls are not promised
+            }
             for (int j = -1; j <= plain.sum(i, -1); j++) {
                 checks.due(name + "sum " + i + " " + j, x.sum(i, j), plain.sum(i, j));
             }
             checks.due(name + "beside " + i, x.beside(i), plain.beside(i));
         }
+        x = asked(p, q, n, k);
         for (int i = 0; i < size; i += 1 + size / 4) {
             for (int j = 0; j < size; j += 1 + size / 9) {
                 checks.due(name + "cuts " + i + " " + j, x.cuts(i, j), plain.cuts(i, j));
