@@ -237,7 +237,23 @@ public final class SingleShares {
         if (q < 2 || q > 60 || n < 2 || n > 40 || k < 1 || k > 4 || p < 0 || p >= q) {
             return BAD;
         }
-        return p == 0 ? hardest(q, n, k) : fewest(p, q, n, k);
+        if (p > 0) {
+            return fewest(p, q, n, k);
+        }
+        int hardest = 1;
+        int most = 0;
+        for (int i = 1; i < q; i++) {
+            int least = fewest(i, q, n, k);
+            if (least == NONE) {
+                // None later can be harder, and of several the least p counts.
+                return i;
+            }
+            if (least > most) {
+                most = least;
+                hardest = i;
+            }
+        }
+        return hardest;
     }
 
     public long rising(int n, int part) {
@@ -372,23 +388,6 @@ public final class SingleShares {
         int common = (int) commonDivisor(p, q);
         finder.prepare(p / common, q / common, n);
         return finder.fewestShares(k);
-    }
-
-    private int hardest(int q, int n, int k) {
-        int hardest = 1;
-        int most = 0;
-        for (int p = 1; p < q; p++) {
-            int least = fewest(p, q, n, k);
-            if (least == NONE) {
-                // None later can be harder, and of several the least p counts.
-                return p;
-            }
-            if (least > most) {
-                most = least;
-                hardest = p;
-            }
-        }
-        return hardest;
     }
 
     /**
